@@ -196,6 +196,9 @@ public final class PromiseTests {
         due("nothing is done", x.count(0), 5);
         due("a fault ahead of repeated", ask(x, 1, 9, 999, "put"), -103);
         due("conflict", ask(x, 0, 3, 5, "put 1"), CONFLICT);
+        due("conflict", ask(x, 0, 0, 5, "put 1"), CONFLICT);
+        due("conflict", ask(x, 0, MOST, 5, "put 1"), CONFLICT);
+        due("bad", x.ask(0, LEAST, 0), BAD);
         due("conflict ahead of refused", ask(x, 0, 3, 5, "take 51"), CONFLICT);
         due("open again", ask(x, 0, "open 1"), -22);
         due("not open", ask(x, 2, "put 1"), -21);
@@ -286,6 +289,9 @@ public final class PromiseTests {
         due("empty", ask(x, 0, ""), -100);
         due("no such word", ask(x, 0, "op 1"), -100);
         due("a longer word", ask(x, 0, "puts 1"), -100);
+        due("a longer word", ask(x, 0, "putz 1"), -100);
+        due("a longer word", ask(x, 0, "aput 1"), -100);
+        due("the 7th stream", ask(x, 0, "send 1 to 7"), -25);
         due("another byte", ask(x, 0, "Put 1"), -100);
         due("word alone", ask(x, 0, "put"), -103);
         due("no number", ask(x, 0, "put "), -104);
@@ -367,6 +373,23 @@ public final class PromiseTests {
         due("an upcaster came", x.steps(0, 4), 4);
         due("bad", x.steps(0, 5), BAD);
         due("bad", x.steps(0, -1), BAD);
+        for (int i = 0; i < 5; i++) {
+            x.snap(0);
+            ask(x, 0, "put 1");
+        }
+        due("the latest 4: 5 to 8", x.steps(0, 4), 4);
+        due("5", x.steps(0, 5), 0);
+        due("6", x.steps(0, 6), 0);
+        due("8", x.steps(0, 8), 0);
+        due("9", x.steps(0, 9), 1);
+        x.snap(1);
+        x.snap(0);
+        due("of its own alone", x.steps(1, 1), 0);
+        ask(x, 1, "put 1");
+        due("of its own alone", x.steps(1, 2), 1);
+        x = two();
+        x.snap(1);
+        due("of its own alone", x.steps(0, 2), 2);
         due("bad", x.steps(-1, 0), BAD);
         due("bad", x.steps(8, 0), BAD);
 
@@ -546,6 +569,11 @@ public final class PromiseTests {
         due("the same", x.row(0, 1, 0), 50);
         due("live as it was", x.row(0, 0, 0), 50);
         due("a fault", rebuild(x, 0, "sum of put by"), -113);
+        due("a fault at 0", rebuild(x, 0, "x"), -100);
+        due("no third one", x.look(0, 2, 0), VOID);
+        due("no third one", x.row(0, 2, 0), VOID);
+        due("no third one", x.deliver(0, 2, 1, 1), BAD);
+        due("no such projection", x.look(4, 1, 0), VOID);
         due("the tape is empty", x.count(2), 0);
         due("stays", x.row(0, 1, 0), 50);
         due("of the tape", rebuild(x, 0, "count of all by stream"), 1);
@@ -852,6 +880,7 @@ public final class PromiseTests {
         due("most", x.tally(1, 1, 6, 2), 60);
         due("some", x.tally(1, 3, 4, 1), 59);
         due("one", x.tally(1, 4, 4, 2), 9);
+        due("the last", x.tally(2, 6, 6, 0), 1);
         due("none", x.tally(8, 1, 6, 0), 0);
         due("none", x.tally(8, 1, 6, 1), 0);
         due("none", x.tally(8, 1, 6, 2), VOID);
