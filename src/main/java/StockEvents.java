@@ -28,8 +28,8 @@ public final class StockEvents {
     private static final String KEY_WORDS = "stream kind none";
     private static final int BY_STREAM = 0, BY_KIND = 1;
 
-    private static final String EVENT_LETTERS = "abs", STATE_LETTERS = "okhpv";
-    private static final int LETTER_A = 0, LETTER_B = 1, LETTER_S = 2;
+    private static final String EVENT_LETTERS = "a b s", STATE_LETTERS = "o k h p v";
+    private static final int LETTER_A = 0, LETTER_B = 1, LETTER_S = 2, EVENT_LETTERS_ALL = 3, STATE_LETTERS_ALL = 5;
 
     // The columns of an event, as event() names them.
     private static final int AT_STREAM = 0, AT_VERSION = 1, AT_KIND = 2, AT_FORMAT = 3, AT_A = 4, AT_B = 5,
@@ -597,13 +597,14 @@ public final class StockEvents {
                 emit(number(CONSTANT_MOST));
                 return;
             }
-            int letter = letters.indexOf((char) sign);
-            if (letter >= 0) {
-                place++;
-                emit(Formula.LETTER + letter);
+            if (sign != '-' && sign != '(') {
+                int letter = word(letters);
+                if (letter != NONE) {
+                    emit(Formula.LETTER + letter);
+                }
                 return;
             }
-            if (sign != '-' && sign != '(' || open >= OPEN_MOST) {
+            if (open >= OPEN_MOST) {
                 fail(place);
                 return;
             }
@@ -1154,7 +1155,7 @@ public final class StockEvents {
             sizes = new int[KINDS];
             toA = new Formula[KINDS * UPCASTERS_MOST];
             toB = new Formula[KINDS * UPCASTERS_MOST];
-            letters = new int[EVENT_LETTERS.length()];
+            letters = new int[EVENT_LETTERS_ALL];
         }
 
         void copyFrom(Formats other) {
@@ -1444,7 +1445,7 @@ public final class StockEvents {
             Arrays.fill(seenStream, NONE);
             seenVersion = new int[SLOTS];
             led = new int[LEDS];
-            stateLetters = new int[STATE_LETTERS.length()];
+            stateLetters = new int[STATE_LETTERS_ALL];
         }
 
         void copyFrom(Store other) {

@@ -167,9 +167,10 @@ final class Model {
             if (c >= '0' && c <= '9') {
                 return number(9999);
             }
-            if (env.containsKey(c)) {
-                i++;
-                return env.get(c);
+            if (c >= 'a' && c <= 'z') {
+                List<String> letters = new ArrayList<>();
+                env.keySet().forEach(letter -> letters.add("" + letter));
+                return env.get(word(letters).charAt(0));
             }
             if ((c == '-' || c == '(') && open < 6) {
                 i++;

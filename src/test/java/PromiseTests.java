@@ -146,8 +146,15 @@ public final class PromiseTests {
         due("two comparisons", c("1<2<3"), -100 - 10);
         due("no operand", c("1+"), -100 - 9);
         due("a blank", c("1 +2"), -100 - 8);
-        due("a letter behind a letter", c("as"), -100 - 8);
-        due("another letter", c("k"), -100 - 7);
+        due("a longer word", c("as"), -100 - 7);
+        due("a longer word", c("aa"), -100 - 7);
+        due("a longer word", c("1+bz"), -100 - 9);
+        due("a longer word", c("-(sa)"), -100 - 9);
+        due("another word", c("k"), -100 - 7);
+        due("a number ends ahead of a word", c("1a"), -100 - 8);
+        due("a word ends ahead of a figure", c("a1"), -100 - 8);
+        due("a word ends ahead of another byte", c("aA"), -100 - 8);
+        due("a letter where six are open", c("((((((as))))))"), -100 - 13);
         due("not closed", c("(1"), -100 - 9);
         due("closed alone", c("1)"), -100 - 8);
         due("least int by -1", c("((0-9999*9999*9999*0-2)*8192*8192*16)/(0-1)"), LEAST);
@@ -282,6 +289,9 @@ public final class PromiseTests {
         due("one C", upcast(x, "put:a"), -105);
         due("no second C", upcast(x, "put:a,"), -106);
         due("more", upcast(x, "put:a,b,"), -107);
+        due("a word of two letters", upcast(x, "put:ab"), -104);
+        due("a word of two letters", upcast(x, "put:a,ba"), -106);
+        due("a word in brackets", upcast(x, "put:(bb),b"), -105);
     }
 
     private static void faultsOfCommands() {
@@ -548,6 +558,8 @@ public final class PromiseTests {
         due("no if", project(x, 0, "sum of put by none or a"), -119);
         due("more", project(x, 0, "sum of put by none if a "), -123);
         due("no blank", project(x, 0, "sum of put by none if(a)"), -121);
+        due("a word of two letters", project(x, 0, "sum of put by none if a>bs"), -124);
+        due("no letter of a watch", project(x, 0, "sum of put by none if ak"), -122);
         x.rebuild(0);
         due("beside", x.look(0, 1, 0), 0);
         due("anew", project(x, 0, "count of all by kind"), 1);
@@ -570,6 +582,7 @@ public final class PromiseTests {
         due("live as it was", x.row(0, 0, 0), 50);
         due("a fault", rebuild(x, 0, "sum of put by"), -113);
         due("a fault at 0", rebuild(x, 0, "x"), -100);
+        due("a word of two letters", rebuild(x, 0, "sum of put by none if aa"), -122);
         due("no third one", x.look(0, 2, 0), VOID);
         due("no third one", x.row(0, 2, 0), VOID);
         due("no third one", x.deliver(0, 2, 1, 1), BAD);
@@ -703,6 +716,9 @@ public final class PromiseTests {
         due("no do", policy(x, 0, "on put if a if take 1"), -112);
         due("no command", policy(x, 0, "on put do tak 1"), -110);
         due("not closed", policy(x, 0, "on put do take (a"), -117);
+        due("a word of two letters", policy(x, 0, "on put if ab do take 1"), -110);
+        due("a word with do", policy(x, 0, "on put if ado take 1"), -110);
+        due("a word of two letters as n", policy(x, 0, "on put do take (as)"), -116);
         due("no blanks in it", policy(x, 0, "on put do take ( a)"), -116);
         due("more", policy(x, 0, "on put do close 1"), -115);
         due("no C there", policy(x, 0, "on put do send 1 to (s)"), -120);
@@ -839,6 +855,9 @@ public final class PromiseTests {
         due("none of its own", watch(x, 7, 1, "1"), 1);
         due("all", watch(x, 0, 2, "1"), 7);
         due("not a", watch(x, 0, 0, "k>a"), -102);
+        due("a word of two letters", watch(x, 0, 0, "k>hp"), -102);
+        due("a word of two letters", watch(x, 0, 0, "vv"), -100);
+        due("a letter, then a figure", watch(x, 0, 0, "v1"), -101);
         due("empty", watch(x, 0, 0, ""), -100);
         due("more", watch(x, 0, 0, "k "), -101);
         due("bad", watch(x, 8, 0, "k"), BAD);

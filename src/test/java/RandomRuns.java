@@ -122,7 +122,7 @@ public final class RandomRuns {
             return "((((((" + any("", "(", "-") + c(letters, 4) + "))))))";
         }
         if (upTo(12) == 0) {
-            return any("a*9999*9999", "9999*9999*9999", "a/(b-b)", "a%0", "------a", "-------a", "-(-(-(a)))");
+            return any("ab", "1+ss", "kk", "(o)p", "a*9999*9999", "9999*9999*9999", "a/(b-b)", "a%0", "------a", "-------a", "-(-(-(a)))");
         }
         return upTo(1) == 0 ? c(letters, 2) : c(letters, 2) + any("<", "=", ">") + c(letters, 2);
     }
