@@ -28,8 +28,8 @@ public final class StockEvents {
     private static final String KEY_WORDS = "stream kind none";
     private static final int BY_STREAM = 0, BY_KIND = 1;
 
-    private static final String EVENT_LETTERS = "a b s", STATE_LETTERS = "o k h p v";
-    private static final int LETTER_A = 0, LETTER_B = 1, LETTER_S = 2, EVENT_LETTERS_ALL = 3, STATE_LETTERS_ALL = 5;
+    private static final String EVENT_LETTERS = "abs", STATE_LETTERS = "okhpv";
+    private static final int LETTER_A = 0, LETTER_B = 1, LETTER_S = 2;
 
     // The columns of an event, as event() names them.
     private static final int AT_STREAM = 0, AT_VERSION = 1, AT_KIND = 2, AT_FORMAT = 3, AT_A = 4, AT_B = 5,
@@ -511,10 +511,7 @@ public final class StockEvents {
         /** Which of these words stands here; a fault where none of them does. */
         int word(String words) {
             int from = place;
-            int to = from;
-            while (to < length && to < bytes.length && bytes[to] >= 'a' && bytes[to] <= 'z') {
-                to++;
-            }
+            int to = wordEnd();
             int begin = 0;
             int which = 0;
             for (int i = 0; i <= words.length(); i++) {
@@ -529,6 +526,14 @@ public final class StockEvents {
             }
             fail(from);
             return NONE;
+        }
+
+        private int wordEnd() {
+            int to = place;
+            while (to < length && to < bytes.length && bytes[to] >= 'a' && bytes[to] <= 'z') {
+                to++;
+            }
+            return to;
         }
 
         private boolean isSame(String words, int begin, int end, int from) {
@@ -598,10 +603,7 @@ public final class StockEvents {
                 return;
             }
             if (sign != '-' && sign != '(') {
-                int letter = word(letters);
-                if (letter != NONE) {
-                    emit(Formula.LETTER + letter);
-                }
+                letter();
                 return;
             }
             if (open >= OPEN_MOST) {
@@ -616,6 +618,17 @@ public final class StockEvents {
                 part(COMPARISON, open + 1);
                 take(')');
             }
+        }
+
+        /** A letter is a word: where more of a .. z stand behind it, it's another one. */
+        private void letter() {
+            int letter = letters.indexOf((char) peek());
+            if (letter < 0 || wordEnd() != place + 1) {
+                fail(place);
+                return;
+            }
+            place++;
+            emit(Formula.LETTER + letter);
         }
 
         private void emit(int step) {
@@ -1155,7 +1168,7 @@ public final class StockEvents {
             sizes = new int[KINDS];
             toA = new Formula[KINDS * UPCASTERS_MOST];
             toB = new Formula[KINDS * UPCASTERS_MOST];
-            letters = new int[EVENT_LETTERS_ALL];
+            letters = new int[EVENT_LETTERS.length()];
         }
 
         void copyFrom(Formats other) {
@@ -1445,7 +1458,7 @@ public final class StockEvents {
             Arrays.fill(seenStream, NONE);
             seenVersion = new int[SLOTS];
             led = new int[LEDS];
-            stateLetters = new int[STATE_LETTERS_ALL];
+            stateLetters = new int[STATE_LETTERS.length()];
         }
 
         void copyFrom(Store other) {
