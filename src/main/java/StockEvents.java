@@ -82,9 +82,9 @@ public final class StockEvents {
         tape.begin();
         int kind = tape.word(KIND_WORDS);
         tape.take(':');
-        Formula a = tape.formula(EVENT_LETTERS);
+        Formula a = tape.formula(EVENT_LETTERS, 0);
         tape.take(',');
-        Formula b = tape.formula(EVENT_LETTERS);
+        Formula b = tape.formula(EVENT_LETTERS, 0);
         int fault = tape.end();
         return fault >= 0 ? FAULTY - fault : store.addUpcaster(kind, a, b);
     }
@@ -339,7 +339,7 @@ public final class StockEvents {
             return BAD;
         }
         tape.begin();
-        Formula watch = tape.formula(STATE_LETTERS);
+        Formula watch = tape.formula(STATE_LETTERS, 0);
         int fault = tape.end();
         return fault >= 0 ? FAULTY - fault : store.watched(stream, what, watch);
     }
@@ -566,10 +566,11 @@ public final class StockEvents {
             return sign >= '0' && sign <= '9';
         }
 
-        Formula formula(String ofLetters) {
+        /** A C; open: how many brackets stand open around it, which count as its own do. */
+        Formula formula(String ofLetters, int open) {
             letters = ofLetters;
             codeLength = 0;
-            part(COMPARISON, 0);
+            part(COMPARISON, open);
             return new Formula(Arrays.copyOf(code, codeLength));
         }
 
@@ -649,7 +650,7 @@ public final class StockEvents {
             Formula formula = null;
             if (ofPolicy && peek() == '(') {
                 place++;
-                formula = formula(EVENT_LETTERS);
+                formula = formula(EVENT_LETTERS, 1);
                 take(')');
             } else {
                 amount = number(AMOUNT_MOST);
@@ -710,7 +711,7 @@ public final class StockEvents {
                 place++;
                 word("if");
                 take(' ');
-                condition = formula(EVENT_LETTERS);
+                condition = formula(EVENT_LETTERS, 0);
             }
             return new Projection(fold, kinds, key, condition);
         }
@@ -723,7 +724,7 @@ public final class StockEvents {
             Formula condition = always();
             if (word("if do") == 0) {
                 take(' ');
-                condition = formula(EVENT_LETTERS);
+                condition = formula(EVENT_LETTERS, 0);
                 take(' ');
                 word("do");
             }

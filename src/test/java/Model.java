@@ -208,7 +208,7 @@ final class Model {
                 sign(' ');
                 if (env != null && peek() == '(') {
                     i++;
-                    n = Math.min(999, Math.max(0, c(env, 0)));
+                    n = Math.min(999, Math.max(0, c(env, 1)));
                     sign(')');
                 } else {
                     n = number(999);

@@ -724,8 +724,16 @@ public final class PromiseTests {
         due("no C there", policy(x, 0, "on put do send 1 to (s)"), -120);
         due("no such number", policy(x, 0, "on put do take 1000"), -115);
         due("stays", x.policyOf(0, 0), 3);
-        due("six open inside", policy(x, 1, "on put do take (((((((a)))))))"), 1);
-        due("seven open inside", policy(x, 1, "on put do take ((((((((a))))))))"), -122);
+        due("six open with its own", policy(x, 1, "on put do take ((((((a))))))"), 1);
+        due("seven open with its own", policy(x, 1, "on put do take (((((((a)))))))"), -121);
+        due("seven open, too early an end", policy(x, 1, "on put do take ((((((("), -121);
+        due("six open, too early an end", policy(x, 1, "on put do take (((((("), -121);
+        due("five - inside", policy(x, 1, "on put do take (-----a)"), 1);
+        due("six - inside", policy(x, 1, "on put do take (------a)"), -121);
+        due("it's closed behind a part", policy(x, 1, "on put do take ((((((a)))))+(((((b))))))"), 1);
+        due("seven open, to be sent", policy(x, 1, "on put do send (-(((((a)))))) to 1"), -121);
+        due("six open behind if", policy(x, 1, "on put if ((((((a)))))) do take ((((((a))))))"), 1);
+        due("seven open behind if", policy(x, 1, "on put if (((((((a))))))) do take 1"), -116);
 
         promise = "23";
         x = two();

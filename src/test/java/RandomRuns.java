@@ -119,7 +119,8 @@ public final class RandomRuns {
 
     private String condition(String letters) {
         if (upTo(12) == 0) {
-            return "((((((" + any("", "(", "-") + c(letters, 4) + "))))))";
+            String open = any("(((((", "((((((");
+            return open + any("", "(", "-") + c(letters, 4) + ")))))))".substring(0, open.length());
         }
         if (upTo(12) == 0) {
             return any("ab", "1+ss", "kk", "(o)p", "a*9999*9999", "9999*9999*9999", "a/(b-b)", "a%0", "------a", "-------a", "-(-(-(a)))");
