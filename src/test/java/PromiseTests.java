@@ -1,123 +1,19 @@
 /** Each promise of the document by hand: ordinary calls, the edges that it names, wrong numbers. */
-public final class PromiseTests {
-    private static final int BAD = -1, NOT = -2, FULL = -3, CONFLICT = -4, STATE = -5, VOID = -2000000000;
-    private static final int LEAST = Integer.MIN_VALUE, MOST = Integer.MAX_VALUE;
-
-    private static int wrong = 0;
-    private static String promise = "";
-
-    private static void due(String what, long got, long want) {
-        if (got != want) {
-            wrong++;
-            System.out.println("promise " + promise + ": " + what + " answered " + got + ", due is " + want);
-        }
-    }
-
-    private static void type(StockEvents x, String text) {
-        for (int i = 0; i < text.length(); i++) {
-            due("feed of " + text, x.feed(text.charAt(i)) > 0 ? 1 : 0, 1);
-        }
-    }
-
-    private static int ask(StockEvents x, int stream, String text) {
-        return ask(x, stream, -1, 0, text);
-    }
-
-    private static int ask(StockEvents x, int stream, int expected, int number, String text) {
-        type(x, text);
-        return x.ask(stream, expected, number);
-    }
-
-    private static int batch(StockEvents x, String text) {
-        type(x, text);
-        return x.batch();
-    }
-
-    private static int upcast(StockEvents x, String text) {
-        type(x, text);
-        return x.upcast();
-    }
-
-    private static int project(StockEvents x, int p, String text) {
-        type(x, text);
-        return x.project(p);
-    }
-
-    private static int rebuild(StockEvents x, int p, String text) {
-        type(x, text);
-        return x.rebuild(p);
-    }
-
-    private static int policy(StockEvents x, int p, String text) {
-        type(x, text);
-        return x.policy(p);
-    }
-
-    private static int harmless(StockEvents x, String text) {
-        type(x, text);
-        return x.harmless();
-    }
-
-    private static int attempt(StockEvents x, int client, int harmless, String text) {
-        type(x, text);
-        return x.attempt(client, harmless);
-    }
-
-    private static int watch(StockEvents x, int stream, int what, String text) {
-        type(x, text);
-        return x.watch(stream, what);
-    }
-
-    private static long foresee(StockEvents x, int stream, int what, String text) {
-        type(x, text);
-        return x.foresee(stream, what);
-    }
-
-    /** What a text C gives, by an upcaster of "priced" over an event with A 7 of STREAM 3. */
-    private static int c(String text) {
-        StockEvents x = new StockEvents();
-        ask(x, 3, "open 1");
-        ask(x, 3, "price 7");
-        int answer = upcast(x, "priced:" + text + ",0");
-        return answer == 2 ? x.event(2, 6) : answer;
-    }
-
-    /** Bins 0 (price 7, stock 50) and 1 (price 3, empty) are open: 1 opened, 2 opened, 3 put. */
-    private static StockEvents two() {
-        StockEvents x = new StockEvents();
-        due("open 0", ask(x, 0, "open 7"), 1);
-        due("open 1", ask(x, 1, "open 3"), 1);
-        due("put 0", ask(x, 0, "put 50"), 2);
-        return x;
-    }
-
-    /** A log of so many events, all but the first four by a policy that stands at 3. */
-    private static StockEvents filled(int events) {
-        StockEvents x = two();
-        policy(x, 3, "on all do put 1");
-        ask(x, 0, "put 1");
-        due("run", x.run(3, events - 4), events - 4);
-        due("events", x.count(0), events);
-        return x;
-    }
-
+public final class PromiseTests extends ByHand {
     public static void main(String[] args) {
-        terms();
-        promises1to5();
-        promises6to11();
-        promises12to15();
-        promises16to21();
-        promises22to24();
-        promises25to29();
-        promises30to35();
-        System.out.println(wrong == 0 ? "all promises hold" : wrong + " answers are not as due");
-        if (wrong != 0) {
-            System.exit(1);
-        }
+        edge("terms", PromiseTests::terms);
+        edge("promises1to5", PromiseTests::promises1to5);
+        edge("promises6to11", PromiseTests::promises6to11);
+        edge("promises12to15", PromiseTests::promises12to15);
+        edge("promises16to21", PromiseTests::promises16to21);
+        edge("promises22to24", PromiseTests::promises22to24);
+        edge("promises25to29", PromiseTests::promises25to29);
+        edge("promises30to35", PromiseTests::promises30to35);
+        end("PromiseTests");
     }
 
     private static void terms() {
-        promise = "(terms) C";
+        about = "terms: C";
         due("2+3*4", c("2+3*4"), 14);
         due("(2+3)*4", c("(2+3)*4"), 20);
         due("9-3-2", c("9-3-2"), 4);
@@ -161,8 +57,8 @@ public final class PromiseTests {
     }
 
     private static void promises1to5() {
-        promise = "1";
-        StockEvents x = new StockEvents();
+        about = "promise 1";
+        Counted x = new Counted();
         for (int what = 0; what < 8; what++) {
             due("count " + what, x.count(what), 0);
         }
@@ -173,9 +69,9 @@ public final class PromiseTests {
             due("version", x.state(stream, 4), 0);
             due("open", x.state(stream, 0), 0);
         }
-        due("two objects share nothing", two().count(0) + new StockEvents().count(0), 3);
+        due("two objects share nothing", two().count(0) + new Counted().count(0), 3);
 
-        promise = "2";
+        about = "promise 2";
         due("0", x.feed(0), BAD);
         due("256", x.feed(256), BAD);
         due("-1", x.feed(-1), BAD);
@@ -188,7 +84,7 @@ public final class PromiseTests {
         due("bad ahead of full", x.feed(0), BAD);
         due("bytes", x.count(2), 160);
 
-        promise = "3";
+        about = "promise 3";
         x = two();
         due("bad stream", ask(x, 8, "put 1"), BAD);
         due("bad stream", x.ask(-1, -1, 0), BAD);
@@ -242,7 +138,7 @@ public final class PromiseTests {
         due("conflict as promised ahead of full", ask(x, 0, 1, 4, "put 1"), CONFLICT);
         due("repeated", ask(x, 0, 1, 3, "put 1"), x.state(0, 4));
 
-        promise = "4";
+        about = "promise 4";
         x = two();
         due("lines", batch(x, "0:put 1;1:put 2;0:send 3 to 1"), 4);
         due("stock", x.state(1, 1), 5);
@@ -271,7 +167,7 @@ public final class PromiseTests {
         due("refused only", x.led(3), 0);
         due("two", batch(x, "0:send 1 to 1"), 2);
 
-        promise = "5";
+        about = "promise 5";
         x = two();
         due("first", upcast(x, "put:a*2,a+b"), 2);
         due("another kind", upcast(x, "opened:a,b"), 2);
@@ -295,7 +191,7 @@ public final class PromiseTests {
     }
 
     private static void faultsOfCommands() {
-        StockEvents x = two();
+        Counted x = two();
         due("empty", ask(x, 0, ""), -100);
         due("no such word", ask(x, 0, "op 1"), -100);
         due("a longer word", ask(x, 0, "puts 1"), -100);
@@ -325,8 +221,8 @@ public final class PromiseTests {
     }
 
     private static void promises6to11() {
-        promise = "6";
-        StockEvents x = two();
+        about = "promise 6";
+        Counted x = two();
         ask(x, 0, "hold 20");
         due("open", x.state(0, 0), 1);
         due("stock", x.state(0, 1), 50);
@@ -353,7 +249,7 @@ public final class PromiseTests {
         due("wraps", upcast(x, "put:a*9999*9999*9999,b"), 2);
         due("wraps", x.state(0, 1), 50 * 9999 * 9999 * 9999 - 50);
 
-        promise = "7";
+        about = "promise 7";
         x = two();
         ask(x, 0, "take 20");
         due("0", x.at(0, 0, 0), 0);
@@ -369,7 +265,7 @@ public final class PromiseTests {
         upcast(x, "put:a+1,b");
         due("read now", x.at(0, 2, 1), 51);
 
-        promise = "8";
+        about = "promise 8";
         x = two();
         ask(x, 0, "put 1");
         due("from the first on", x.steps(0, 3), 3);
@@ -403,7 +299,7 @@ public final class PromiseTests {
         due("bad", x.steps(-1, 0), BAD);
         due("bad", x.steps(8, 0), BAD);
 
-        promise = "9";
+        about = "promise 9";
         x = two();
         due("none yet", x.snap(7), 0);
         due("one", x.snap(0), 2);
@@ -412,7 +308,7 @@ public final class PromiseTests {
         due("bad", x.snap(8), BAD);
         due("bad", x.snap(-1), BAD);
 
-        promise = "10";
+        about = "promise 10";
         due("all", x.snaps(0, 0), 2);
         due("good", x.snaps(0, 1), 2);
         upcast(x, "put:a,b");
@@ -430,7 +326,7 @@ public final class PromiseTests {
         due("bad", x.snaps(0, -1), BAD);
         due("bad", x.snaps(8, 0), BAD);
 
-        promise = "11";
+        about = "promise 11";
         x = two();
         due("never", x.every(2), 0);
         due("bad", x.every(21), BAD);
@@ -454,8 +350,8 @@ public final class PromiseTests {
     }
 
     private static void promises12to15() {
-        promise = "12";
-        StockEvents x = two();
+        about = "promise 12";
+        Counted x = two();
         ask(x, 0, "send 5 to 1");
         int[][] want = {{0, 2, 1, 1, 50, 0, 50, 0}, {0, 3, 6, 1, 5, 1, 5, 1}, {1, 2, 7, 1, 5, 0, 5, 0}};
         for (int position = 3; position <= 5; position++) {
@@ -480,7 +376,7 @@ public final class PromiseTests {
         due("bad", x.event(1, 8), VOID);
         due("bad", x.event(1, -1), VOID);
 
-        promise = "13";
+        about = "promise 13";
         String[] texts = {"1:opened 0.1 a=7 b=0 f1", "4:sent 0.3 a=5 b=1 f1", "7:got 1.3 a=5 b=0 f1"};
         for (String text : texts) {
             int position = text.charAt(0) - '0';
@@ -500,7 +396,7 @@ public final class PromiseTests {
         due("long", x.text(240, -1), last.length());
         due("long", x.text(240, 10), last.charAt(10));
 
-        promise = "14";
+        about = "promise 14";
         x = two();
         due("1", x.find(0, 1), 1);
         due("2", x.find(0, 2), 3);
@@ -511,7 +407,7 @@ public final class PromiseTests {
         due("bad", x.find(8, 1), BAD);
         due("bad", x.find(-1, 1), BAD);
 
-        promise = "15";
+        about = "promise 15";
         ask(x, 0, "send 20 to 1");
         due("0", x.worth(0), 0);
         due("2", x.worth(2), 0);
@@ -530,8 +426,8 @@ public final class PromiseTests {
     }
 
     private static void promises16to21() {
-        promise = "16";
-        StockEvents x = two();
+        about = "promise 16";
+        Counted x = two();
         due("bad", project(x, 4, "sum of put by none"), BAD);
         due("bad", x.project(-1), BAD);
         due("the tape stays", x.count(2), 18);
@@ -566,7 +462,7 @@ public final class PromiseTests {
         due("anew", x.look(0, 0, 0), 0);
         due("none beside", x.look(0, 1, 0), VOID);
 
-        promise = "17";
+        about = "promise 17";
         x = two();
         due("none live", rebuild(x, 0, "sum of put by none"), STATE);
         due("bad", x.rebuild(4), BAD);
@@ -593,7 +489,7 @@ public final class PromiseTests {
         x.deliver(0, 1, 1, 3);
         due("another", x.row(0, 1, 0), 2);
 
-        promise = "18";
+        about = "promise 18";
         x = two();
         due("none", x.deliver(0, 0, 1, 1), STATE);
         project(x, 0, "sum of put by stream");
@@ -621,7 +517,7 @@ public final class PromiseTests {
         due("by upcasters as of then", x.deliver(0, 0, 4, 1), 1);
         due("53", x.row(0, 0, 0), 53);
 
-        promise = "19";
+        about = "promise 19";
         due("none beside", x.swap(0), STATE);
         due("bad", x.swap(4), BAD);
         due("bad", x.swap(-1), BAD);
@@ -635,7 +531,7 @@ public final class PromiseTests {
         due("none beside", x.look(0, 1, 0), VOID);
         due("none beside", x.swap(0), STATE);
 
-        promise = "20";
+        about = "promise 20";
         x = two();
         ask(x, 1, "put 5");
         due("none", x.look(0, 0, 0), VOID);
@@ -668,7 +564,7 @@ public final class PromiseTests {
         upcast(x, "put:a-1,b");
         due("a row that would not be", x.look(1, 0, 3), 0);
 
-        promise = "21";
+        about = "promise 21";
         x = two();
         batch(x, "0:put 9;0:put 60;1:put 3;1:price 8");
         due("none", x.row(0, 0, 0), VOID);
@@ -699,8 +595,8 @@ public final class PromiseTests {
     }
 
     private static void promises22to24() {
-        promise = "22";
-        StockEvents x = two();
+        about = "promise 22";
+        Counted x = two();
         due("bad", policy(x, 4, "on put do take 1"), BAD);
         due("bad", x.policy(-1), BAD);
         due("the tape stays", x.count(2), 16);
@@ -708,6 +604,9 @@ public final class PromiseTests {
         due("all there are", x.policyOf(0, 0), 3);
         due("if", policy(x, 3, "on put+got if a>2 do send (a/2) to 1"), 1);
         due("empty", x.policy(0), -100);
+        due("stays", x.policyOf(0, 0), 3);
+        x = two();
+        policy(x, 0, "on put do take 1");
         due("no on", policy(x, 0, "or put do take 1"), -100);
         due("no kind", policy(x, 0, "on puts do take 1"), -103);
         due("no do", policy(x, 0, "on put then do take 1"), -107);
@@ -724,6 +623,7 @@ public final class PromiseTests {
         due("no C there", policy(x, 0, "on put do send 1 to (s)"), -120);
         due("no such number", policy(x, 0, "on put do take 1000"), -115);
         due("stays", x.policyOf(0, 0), 3);
+        x = two();
         due("six open with its own", policy(x, 1, "on put do take ((((((a))))))"), 1);
         due("seven open with its own", policy(x, 1, "on put do take (((((((a)))))))"), -121);
         due("seven open, too early an end", policy(x, 1, "on put do take ((((((("), -121);
@@ -735,7 +635,7 @@ public final class PromiseTests {
         due("six open behind if", policy(x, 1, "on put if ((((((a)))))) do take ((((((a))))))"), 1);
         due("seven open behind if", policy(x, 1, "on put if (((((((a))))))) do take 1"), -116);
 
-        promise = "23";
+        about = "promise 23";
         x = two();
         due("none", x.run(0, 1), STATE);
         policy(x, 0, "on put if a>2 do send (a/2) to 1");
@@ -778,7 +678,7 @@ public final class PromiseTests {
         due("refused and handled", x.run(0, 240), 1);
         due("refused and handled", x.policyOf(0, 0), 4);
 
-        promise = "24";
+        about = "promise 24";
         due("checkpoint", x.policyOf(0, 0), 4);
         due("done", x.policyOf(0, 1), 0);
         due("refused", x.policyOf(0, 2), 1);
@@ -795,15 +695,15 @@ public final class PromiseTests {
     }
 
     private static void promises25to29() {
-        promise = "25";
-        StockEvents x = two();
+        about = "promise 25";
+        Counted x = two();
         due("2", x.see(0, 0), 2);
         due("none", x.see(3, 7), 0);
         due("bad", x.see(4, 0), BAD);
         due("bad", x.see(-1, 0), BAD);
         due("bad", x.see(0, 8), BAD);
 
-        promise = "26";
+        about = "promise 26";
         due("nothing", x.harmless(), 0);
         due("all", harmless(x, "all"), 9);
         due("twice", harmless(x, "put+put+priced"), 2);
@@ -812,7 +712,7 @@ public final class PromiseTests {
         due("a fault", harmless(x, "put priced"), -103);
         due("the tape is empty", x.count(2), 0);
 
-        promise = "27";
+        about = "promise 27";
         x = two();
         due("seen none", attempt(x, 0, 0, "x"), STATE);
         due("bad", x.attempt(4, 0), BAD);
@@ -846,7 +746,7 @@ public final class PromiseTests {
         due("full", attempt(x, 1, 0, "put 1"), FULL);
         due("refused", attempt(x, 1, 0, "open 1"), -22);
 
-        promise = "28";
+        about = "promise 28";
         x = two();
         batch(x, "0:take 30;0:put 5;0:put 50;0:take 60");
         due("first", watch(x, 0, 0, "k>20"), 2);
@@ -876,7 +776,7 @@ public final class PromiseTests {
         upcast(x, "taken:a*2,b");
         due("read now", watch(x, 0, 0, "k<0"), 3);
 
-        promise = "29";
+        about = "promise 29";
         x = two();
         String text = "0:put 5;0:send 10 to 1;1:price 9;0:hold 3;2:put 1;0:put 1";
         long[] want = {4, 5, 1, 45, 3, 7};
@@ -899,8 +799,8 @@ public final class PromiseTests {
     }
 
     private static void promises30to35() {
-        promise = "30";
-        StockEvents x = two();
+        about = "promise 30";
+        Counted x = two();
         batch(x, "0:put 9;1:put 60;0:take 8");
         due("how many", x.tally(1, 1, 6, 0), 3);
         due("sum", x.tally(1, 1, 6, 1), 119);
@@ -921,7 +821,7 @@ public final class PromiseTests {
         due("bad", x.tally(1, 1, 6, 3), VOID);
         due("bad", x.tally(1, 1, 6, -1), VOID);
 
-        promise = "31";
+        about = "promise 31";
         due("none", x.digest(0), 7);
         int d = 7;
         for (char sign : "1:opened 0.1 a=7 b=0 f12:opened 1.1 a=3 b=0 f1".toCharArray()) {
@@ -937,7 +837,7 @@ public final class PromiseTests {
         }
         due("32 bits", big ? 1 : 0, 1);
 
-        promise = "32 and 33";
+        about = "promise 32 and 33";
         x = two();
         due("none kept", x.back(), STATE);
         ask(x, 0, 2, 9, "put 1");
@@ -1002,7 +902,7 @@ public final class PromiseTests {
         ask(x, 0, "put 1");
         due("back to it", x.back(), 6);
 
-        promise = "34";
+        about = "promise 34";
         x = two();
         due("done", x.led(0), 3);
         batch(x, "0:put 1;0:send 1 to 1");
@@ -1040,7 +940,7 @@ public final class PromiseTests {
         due("bad", x.led(7), BAD);
         due("bad", x.led(-1), BAD);
 
-        promise = "35";
+        about = "promise 35";
         x = two();
         ask(x, 0, -1, 7, "put 1");
         upcast(x, "put:a,b");

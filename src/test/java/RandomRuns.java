@@ -2,10 +2,10 @@ import java.util.Random;
 
 /** Random runs of calls, each answer held against the Model's. A fixed seed for each run: it can be run again. */
 public final class RandomRuns {
-    private static final int RUNS = 160, CALLS = 260;
+    private static final int RUNS = 1000;
 
     private final Random random;
-    private final StockEvents x = new StockEvents();
+    private final Counted x = new Counted();
     private final Model m = new Model();
     private final StringBuilder told = new StringBuilder();
     private boolean wrong;
@@ -19,16 +19,25 @@ public final class RandomRuns {
         int from = args.length > 1 ? Integer.parseInt(args[1]) : 0;
         for (int seed = from; seed < from + runs; seed++) {
             RandomRuns one = new RandomRuns(seed);
-            one.begin(seed);
-            for (int i = 0; i < CALLS && !one.wrong; i++) {
-                one.call();
-            }
+            one.all(seed);
             if (one.wrong) {
                 System.out.println("seed " + seed + ":\n" + one.told);
                 System.exit(1);
             }
         }
         System.out.println(runs + " random runs answered as the model does");
+    }
+
+    /** Calls till the object has been called as often as the document lets it be. */
+    private void all(int seed) {
+        try {
+            begin(seed);
+            while (!wrong) {
+                call();
+            }
+        } catch (Counted.Over over) {
+            told.append("all calls\n");
+        }
     }
 
     /** Most runs begin with open bins, some with a log that is nearly or quite full. */
