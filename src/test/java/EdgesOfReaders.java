@@ -56,6 +56,7 @@ public final class EdgesOfReaders extends ByHand {
         edge("image, back: STATE: there is none", EdgesOfReaders::backOfNone);
         edge("AN IMAGE keeps THE LOG", EdgesOfReaders::imageOfLog);
         edge("AN IMAGE keeps UPCASTERS, SNAPSHOTS, EVERY, NUMBERS", EdgesOfReaders::imageOfFormats);
+        edge("AN IMAGE keeps SNAPSHOTS: the latest 4 of then", EdgesOfReaders::imageOfSnapshots);
         edge("AN IMAGE keeps PROJECTIONS", EdgesOfReaders::imageOfProjections);
         edge("AN IMAGE keeps POLICIES, HARMLESS, what CLIENTS have SEEN", EdgesOfReaders::imageOfClients);
         edge("AN IMAGE keeps what LED tells", EdgesOfReaders::imageOfLed);
@@ -515,6 +516,16 @@ public final class EdgesOfReaders extends ByHand {
         projected(x, 0, "count of put by stream");
         upcast(x, "put:a+1,b");
         due("count does not care", x.look(0, 0, 3), 1);
+        projected(x, 1, "count of all by kind");
+        projected(x, 2, "first of all by none");
+        projected(x, 3, "sum of opened by stream");
+        for (int p = 1; p < 4; p++) {
+            due("from the first EVENT on", x.look(p, 0, 3), 1);
+        }
+        upcast(x, "opened:a+(a=7),b");
+        due("count does not care", x.look(1, 0, 3), 1);
+        due("the first EVENT", x.look(2, 0, 3), 0);
+        due("the first EVENT", x.look(3, 0, 3), 0);
     }
 
     private static void swapEdges() {
@@ -889,7 +900,15 @@ public final class EdgesOfReaders extends ByHand {
             ask(x, 2, "put 0");
             due(EdgesOfTexts.KIND_WORDS[k], attempt(x, 0, 1, "put 0"), k == 1 ? 3 : CONFLICT);
         }
-        Counted x = two();
+        Counted x = new Counted();
+        harmless(x, "put");
+        x.see(0, 0);
+        ask(x, 0, "open 1");
+        ask(x, 0, "put 1");
+        due("the first EVENT of all is not", attempt(x, 0, 1, "put 1"), CONFLICT);
+        harmless(x, "opened+put");
+        due("all are", attempt(x, 0, 1, "put 1"), 3);
+        x = two();
         harmless(x, "priced+held");
         x.see(0, 0);
         ask(x, 0, "price 1");
@@ -919,7 +938,11 @@ public final class EdgesOfReaders extends ByHand {
     }
 
     private static void triedSeen() {
-        Counted x = two();
+        Counted x = new Counted();
+        x.see(0, 2);
+        due("the first", attempt(x, 0, 0, "open 1"), 1);
+        due("it has SEEN 1", attempt(x, 0, 0, "put 1"), 2);
+        x = two();
         x.see(0, 0);
         due("done", attempt(x, 0, 0, "put 1"), 3);
         due("it has SEEN 3", attempt(x, 0, 0, "put 1"), 4);
@@ -1280,6 +1303,30 @@ public final class EdgesOfReaders extends ByHand {
         due("FORMAT", upcast(x, "got:a,b"), 2);
     }
 
+    private static void imageOfSnapshots() {
+        Counted x = two();
+        x.snap(0);
+        upcast(x, "got:a,b");
+        for (int i = 0; i < 3; i++) {
+            ask(x, 0, "put 1");
+            x.snap(0);
+        }
+        x.image();
+        for (int i = 0; i < 3; i++) {
+            ask(x, 0, "put 1");
+            x.snap(0);
+        }
+        due("three of then are gone", x.steps(0, 4), 4);
+        due("GOOD", x.snaps(0, 1), 4);
+        due("back", x.back(), 6);
+        due("kept", x.snaps(0, 0), 4);
+        due("GOOD", x.snaps(0, 1), 3);
+        int[] wants = {0, 1, 2, 0, 0, 0};
+        for (int version = 0; version <= 5; version++) {
+            due("STEPS to " + version, x.steps(0, version), wants[version]);
+        }
+    }
+
     private static void imageOfProjections() {
         Counted x = two();
         projected(x, 0, "sum of put by stream");
@@ -1315,13 +1362,16 @@ public final class EdgesOfReaders extends ByHand {
     private static void imageOfClients() {
         Counted x = two();
         policy(x, 0, "on put do price 9");
+        policy(x, 2, "on put do open 9");
         ask(x, 0, "put 1");
         x.run(0, 1);
+        x.run(2, 1);
         harmless(x, "priced");
         x.see(0, 0);
         x.image();
         ask(x, 0, "put 1");
         x.run(0, 9);
+        x.run(2, 9);
         policy(x, 1, "on put do price 9");
         policy(x, 0, "on all do put 1");
         harmless(x, "");
@@ -1330,6 +1380,7 @@ public final class EdgesOfReaders extends ByHand {
         x.back();
         due("CHECKPOINT", x.policyOf(0, 0), 4);
         due("done", x.policyOf(0, 1), 1);
+        due("REFUSED", x.policyOf(2, 2), 1);
         due("no policy 1", x.policyOf(1, 0), STATE);
         due("SEEN none", x.attempt(1, 0), STATE);
         ask(x, 0, "price 2");

@@ -17,6 +17,7 @@ public final class EdgesOfStates extends ByHand {
         edge("ints that wrap: HELD, PRICE", EdgesOfStates::heldAndPriceWrap);
         edge("The STATE at a VERSION: by its EVENTS up to that one", EdgesOfStates::stateAtVersions);
         edge("the latest 4 SNAPSHOTS of a STREAM are kept", EdgesOfStates::fourSnapshots);
+        edge("the latest 4 are kept: each with its VERSION and its ERA", EdgesOfStates::fourSnapshotsOfEras);
         edge("GOOD: its ERA is that of now", EdgesOfStates::goodSnapshots);
         edge("STEPS: behind the latest VERSION up to it that has a GOOD SNAPSHOT", EdgesOfStates::stepsBehindGood);
         edge("STEPS: or from the first on", EdgesOfStates::stepsFromFirst);
@@ -317,6 +318,33 @@ public final class EdgesOfStates extends ByHand {
             }
         }
         due("4 of each", x.count(5), 32);
+    }
+
+    private static void fourSnapshotsOfEras() {
+        Counted x = two();
+        x.snap(0);
+        ask(x, 0, "put 1");
+        x.snap(0);
+        upcast(x, "got:a,b");
+        due("none good", x.snaps(0, 1), 0);
+        for (int i = 1; i <= 4; i++) {
+            ask(x, 0, "put 1");
+            x.snap(0);
+            due("good", x.snaps(0, 1), i);
+            due("kept", x.snaps(0, 0), Math.min(4, 2 + i));
+        }
+        due("the first good one", x.steps(0, 4), 0);
+        due("none up to it", x.steps(0, 3), 3);
+        ask(x, 1, "put 1");
+        for (int i = 0; i < 6; i++) {
+            ask(x, 1, "put 1");
+            ask(x, 0, "put 1");
+        }
+        x.snap(1);
+        due("another STREAM's does not count", x.steps(0, 13), 6);
+        due("another STREAM's does not count", x.steps(0, 12), 5);
+        due("its own", x.steps(1, 8), 0);
+        due("its own alone", x.steps(1, 7), 7);
     }
 
     private static void goodSnapshots() {
@@ -701,7 +729,13 @@ public final class EdgesOfStates extends ByHand {
     }
 
     private static void repeated() {
-        Counted x = two();
+        Counted x = new Counted();
+        due("VERSION 1", ask(x, 0, 0, 5, "open 7"), 1);
+        due("NUMBERS", x.count(4), 1);
+        due("what it was: 1", ask(x, 0, 0, 5, "open 7"), 1);
+        due("REPEATED", x.led(1), 1);
+        due("none REFUSED", x.led(3), 0);
+        x = two();
         due("put", ask(x, 0, 2, 5, "put 1"), 3);
         due("others", batch(x, "0:put 1;0:put 1"), 2);
         due("what it was", ask(x, 0, 2, 5, "put 1"), 3);
