@@ -2,7 +2,7 @@ import java.util.Random;
 
 /** Random runs of calls, each answer held against the Model's. A fixed seed for each run: it can be run again. */
 public final class RandomRuns {
-    private static final int RUNS = 1000;
+    private static final int RUNS = 3000;
 
     private final Random random;
     private final Counted x = new Counted();
